@@ -71,8 +71,11 @@ public final class AddMethodTest {
         int p = x.object(1);
         for (int i = 0; i < 8; i++) {
             Due.is("method " + (i + 1) + " of 8", x.addMethod(o, 15 - i, i), true);
+            Due.is("its label again", x.addMethod(o, 15 - i, 8), false);
         }
-        Due.is("a ninth method", x.addMethod(o, 0, 8), false);
+        for (int l = 0; l < 16; l++) {
+            Due.is("a ninth method " + l, x.addMethod(o, l, 8), false);
+        }
         Due.is("nodeParent of the ninth body", x.nodeParent(8), -1);
         Due.is("the next object has no method", x.addMethod(p, 8, other), true);
         x.run(p, 0);

@@ -68,6 +68,24 @@ public final class RunTest {
         o = x.object(1);
         x.addMethod(o, 7, never);
         Due.is("a free variable that the run would not reach", x.run(o, 0), ObjectCalculus.RUN_OPEN);
+        theLongestChains();
+    }
+
+    private static void theLongestChains() {
+        ObjectCalculus x = new ObjectCalculus(32, 8);
+        int n = x.variable(0);
+        for (int i = 1; i < 32; i++) {
+            n = x.select(n, 0);
+        }
+        Due.is("a free variable under 31 selects", x.run(n, 128), ObjectCalculus.RUN_OPEN);
+        x = new ObjectCalculus(32, 8);
+        n = x.variable(15);
+        for (int i = 1; i < 32; i++) {
+            int open = x.run(n, 0);
+            Due.is("variable 15 under " + (i - 1) + " binders", open, i <= 16 ? 7 : 0);
+            n = literalWith(x, 0, n);
+        }
+        Due.is("variable 15 under 31 binders", x.run(n, 0), ObjectCalculus.RUN_VALUE);
     }
 
     private static void outcomes() {
@@ -264,17 +282,18 @@ public final class RunTest {
         due("an update's method names the outer self", x, x.run(s, 9), 0, 2, 3);
         Due.is("it is the outer object again", x.resultType(), t);
 
-        int both = x.variable(1);
+        int outerSelf = x.variable(1);
         int z = x.variable(0);
         int kept = x.object(1);
-        x.addMethod(kept, 1, both);
+        x.addMethod(kept, 1, outerSelf);
         x.addMethod(kept, 2, z);
-        u = x.update(kept, 2, 1, x.variable(0));
-        int sel = x.select(u, 1);
+        body = x.select(x.update(kept, 2, 1, x.variable(0)), 1);
         o = x.object(t);
-        x.addMethod(o, 0, sel);
-        s = x.select(o, 0);
-        due("the kept method keeps its environment", x, x.run(s, 9), 0, 2, 3);
+        x.addMethod(o, 0, body);
+        // A first invocation on another object, so that the environment to keep is not the run's first.
+        int first = literalWith(x, 3, o);
+        s = x.select(x.select(first, 3), 0);
+        due("the kept method keeps its environment", x, x.run(s, 9), 0, 3, 4);
         Due.is("it is the outer object once more", x.resultType(), t);
     }
 
