@@ -1,65 +1,132 @@
 /** Promise 1. */
 public final class ConstructionTest {
+    private static final int[] BELOW = {Integer.MIN_VALUE, Integer.MIN_VALUE + 1, -32, -8, -1, 0, 1, 7};
+    private static final int[] ABOVE = {33, 34, 64, 256, 1 << 16, 1 << 28, Integer.MAX_VALUE - 1, Integer.MAX_VALUE};
+
     public static void main(String[] args) {
-        int[][] givenAndKept = {
-            {Integer.MIN_VALUE, 8}, {-1, 8}, {0, 8}, {7, 8}, {8, 8}, {9, 9}, {20, 20},
-            {31, 31}, {32, 32}, {33, 32}, {1000, 32}, {Integer.MAX_VALUE, 32}};
-        for (int[] nodes : givenAndKept) {
-            for (int[] types : givenAndKept) {
-                ObjectCalculus x = new ObjectCalculus(nodes[0], types[0]);
-                String name = "ObjectCalculus(" + nodes[0] + ", " + types[0] + ")";
-                freshState(name, x);
-                nodeCapacity(name, x, nodes[1]);
-                typeCapacity(name, x, types[1]);
-            }
-        }
+        belowEightBecomesEight();
+        aboveThirtyTwoBecomesThirtyTwo();
+        eightToThirtyTwoIsKept();
+        bothOutside();
+        topAndEmptyCount();
+        freshTypes();
+        freshNodes();
+        freshErrorNode();
+        freshResult();
+        freshCounters();
         objectsStandApart();
         Due.end();
     }
 
-    private static void freshState(String name, ObjectCalculus x) {
-        int[] ints = {Integer.MIN_VALUE, -1, 0, 1, 2, 15, 16, 31, 32, Integer.MAX_VALUE};
-        Due.is(name + " errorNode()", x.errorNode(), -1);
-        Due.is(name + " resultType()", x.resultType(), -1);
-        Due.is(name + " fuelUsed()", x.fuelUsed(), 0);
-        Due.is(name + " objectsCreated()", x.objectsCreated(), 0);
-        for (int i : ints) {
-            boolean isType = i == ObjectCalculus.TOP || i == ObjectCalculus.EMPTY;
-            Due.is(name + " resultBody(" + i + ")", x.resultBody(i), -1);
-            Due.is(name + " nodeParent(" + i + ")", x.nodeParent(i), -1);
-            Due.is(name + " check(" + i + ")", x.check(i), ObjectCalculus.CK_BAD_ROOT);
-            Due.is(name + " run(" + i + ", 9)", x.run(i, 9), ObjectCalculus.RUN_BAD_ROOT);
-            Due.is(name + " select(" + i + ", 0)", x.select(i, 0), -1);
-            Due.is(name + " isSubtype(i, i) of " + i, x.isSubtype(i, i), isType);
-            Due.is(name + " typeMember(0, " + i + ")", x.typeMember(0, i), -1);
-            Due.is(name + " typeMember(1, " + i + ")", x.typeMember(1, i), -1);
+    private static void belowEightBecomesEight() {
+        for (int cap : BELOW) {
+            capacities(cap, 20, 8, 20);
+            capacities(20, cap, 20, 8);
         }
-        Due.is(name + " isSubtype(1, 0)", x.isSubtype(1, 0), true);
-        Due.is(name + " isSubtype(0, 1)", x.isSubtype(0, 1), false);
     }
 
-    private static void nodeCapacity(String name, ObjectCalculus x, int cap) {
-        for (int i = 0; i < cap; i++) {
-            Due.is(name + " node " + i, x.variable(0), i);
+    private static void aboveThirtyTwoBecomesThirtyTwo() {
+        for (int cap : ABOVE) {
+            capacities(cap, 20, 32, 20);
+            capacities(20, cap, 20, 32);
         }
-        Due.is(name + " variable beyond the capacity", x.variable(0), -1);
-        Due.is(name + " object beyond the capacity", x.object(1), -1);
     }
 
-    private static void typeCapacity(String name, ObjectCalculus x, int cap) {
-        for (int i = 2; i < cap; i++) {
-            Due.is(name + " type " + i, x.extendType(1, 0, i - 1), i);
+    private static void eightToThirtyTwoIsKept() {
+        for (int cap = 8; cap <= 32; cap++) {
+            capacities(cap, 40 - cap, cap, 40 - cap);
         }
-        Due.is(name + " type beyond the capacity", x.extendType(1, 0, cap - 1), -1);
-        Due.is(name + " isSubtype(cap, cap)", x.isSubtype(cap, cap), false);
+    }
+
+    private static void bothOutside() {
+        for (int low : BELOW) {
+            for (int high : ABOVE) {
+                capacities(low, high, 8, 32);
+                capacities(high, low, 32, 8);
+            }
+        }
+    }
+
+    private static void capacities(int nodeCap, int typeCap, int nodes, int types) {
+        String name = "ObjectCalculus(" + nodeCap + ", " + typeCap + ")";
+        ObjectCalculus x = new ObjectCalculus(nodeCap, typeCap);
+        for (int i = 0; i < nodes; i++) {
+            Due.is(name + ", node " + i, x.variable(0), i);
+        }
+        Due.is(name + ", a variable too many", x.variable(0), -1);
+        Due.is(name + ", an object too many", x.object(1), -1);
+        Due.is(name + ", a select too many", x.select(0, 0), -1);
+        Due.is(name + ", an update too many", x.update(0, 0, 1, 1), -1);
+        for (int i = 2; i < types; i++) {
+            Due.is(name + ", type " + i, x.extendType(1, 0, i - 1), i);
+        }
+        Due.is(name + ", a type too many", x.extendType(1, 0, types - 1), -1);
+        Due.is(name + ", the last type", x.isSubtype(types - 1, types - 1), true);
+        Due.is(name + ", no type behind it", x.isSubtype(types, types), false);
+    }
+
+    private static void topAndEmptyCount() {
+        ObjectCalculus x = new ObjectCalculus(8, 8);
+        for (int label = 0; label < 6; label++) {
+            Due.is("type " + (label + 1) + " beside TOP and EMPTY", x.extendType(1, label, 1), label + 2);
+        }
+        Due.is("type 7 beside TOP and EMPTY", x.extendType(1, 6, 1), -1);
+    }
+
+    private static void freshTypes() {
+        ObjectCalculus x = new ObjectCalculus(8, 8);
+        Due.is("TOP is a type", x.isSubtype(0, 0), true);
+        Due.is("EMPTY is a type", x.isSubtype(1, 1), true);
+        Due.is("EMPTY <: TOP", x.isSubtype(1, 0), true);
+        Due.is("TOP <: EMPTY", x.isSubtype(0, 1), false);
+        for (int t : Outside.of(2)) {
+            Due.is("a fresh isSubtype(" + t + ", itself)", x.isSubtype(t, t), false);
+        }
+        for (int l = -1; l <= 16; l++) {
+            Due.is("a fresh typeMember(TOP, " + l + ")", x.typeMember(0, l), -1);
+            Due.is("a fresh typeMember(EMPTY, " + l + ")", x.typeMember(1, l), -1);
+        }
+        Due.is("the first new type", x.extendType(1, 0, 1), 2);
+    }
+
+    private static void freshNodes() {
+        ObjectCalculus x = new ObjectCalculus(8, 8);
+        for (int n : Outside.of(0)) {
+            Due.is("a fresh nodeParent(" + n + ")", x.nodeParent(n), -1);
+            Due.is("a fresh check(" + n + ")", x.check(n), ObjectCalculus.CK_BAD_ROOT);
+            Due.is("a fresh run(" + n + ", 9)", x.run(n, 9), ObjectCalculus.RUN_BAD_ROOT);
+            Due.is("a fresh select(" + n + ", 0)", x.select(n, 0), -1);
+            Due.is("a fresh update of " + n, x.update(n, 0, 1, n + 1), -1);
+            Due.is("a fresh addMethod of " + n, x.addMethod(n, 0, n - 1), false);
+        }
+        Due.is("the first node", x.variable(0), 0);
+    }
+
+    private static void freshErrorNode() {
+        Due.is("a fresh errorNode()", new ObjectCalculus(8, 8).errorNode(), -1);
+    }
+
+    private static void freshResult() {
+        ObjectCalculus x = new ObjectCalculus(8, 8);
+        Due.is("a fresh resultType()", x.resultType(), -1);
+        for (int l = 0; l < 16; l++) {
+            Due.is("a fresh resultBody(" + l + ")", x.resultBody(l), -1);
+        }
+        for (int l : Outside.SIXTEEN) {
+            Due.is("a fresh resultBody(" + l + ")", x.resultBody(l), -1);
+        }
+    }
+
+    private static void freshCounters() {
+        ObjectCalculus x = new ObjectCalculus(8, 8);
+        Due.is("a fresh fuelUsed()", x.fuelUsed(), 0);
+        Due.is("a fresh objectsCreated()", x.objectsCreated(), 0);
     }
 
     private static void objectsStandApart() {
-        ObjectCalculus x = new ObjectCalculus(8, 8);
-        ObjectCalculus y = new ObjectCalculus(8, 8);
-        x.object(1);
-        x.extendType(1, 0, 1);
-        x.run(0, 1);
-        freshState("a second object", y);
+        Twin.changesNothing("the making of another object", () -> new ObjectCalculus(8, 8), x -> {
+            Scene.make();
+            return 0;
+        }, 0);
     }
 }

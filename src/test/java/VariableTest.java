@@ -1,25 +1,73 @@
+import java.util.List;
+
 /** Promise 5. */
 public final class VariableTest {
     public static void main(String[] args) {
-        int[] noVariable = {-1, 16, 17, Integer.MIN_VALUE, Integer.MAX_VALUE};
-        ObjectCalculus x = new ObjectCalculus(17, 8);
-        for (int k = 0; k <= 15; k++) {
-            for (int wrong : noVariable) {
-                Due.is("variable(" + wrong + ")", x.variable(wrong), -1);
-            }
-            Due.is("nodeParent before it is a node", x.nodeParent(k), -1);
-            Due.is("check before it is a node", x.check(k), ObjectCalculus.CK_BAD_ROOT);
-            Due.is("variable(" + k + ")", x.variable(k), k);
-            Due.is("a new variable has no parent", x.nodeParent(k), -1);
-            Due.is("check of a lone variable", x.check(k), ObjectCalculus.CK_UNBOUND);
-            Due.is("run of a lone variable", x.run(k, 1), ObjectCalculus.RUN_OPEN);
-        }
-        Due.is("the last place", x.variable(0), 16);
-        Due.is("variable in a full table", x.variable(0), -1);
-        Due.is("types stay", x.extendType(1, 0, 1), 2);
+        zeroAndFifteen();
+        noVariable();
+        fullTable();
+        noVariableInAFullTable();
+        theLastPlace();
+        notYetANode();
+        newVariable();
         indicesCountFromTheInnermost();
         leavesTheRestAlone();
         Due.end();
+    }
+
+    private static void zeroAndFifteen() {
+        ObjectCalculus x = new ObjectCalculus(16, 8);
+        for (int k = 0; k <= 15; k++) {
+            Due.is("variable(" + k + ")", x.variable(k), k);
+        }
+    }
+
+    private static void noVariable() {
+        for (int k : Outside.SIXTEEN) {
+            Twin.changesNothing("variable(" + k + ")", Scene::make, x -> x.variable(k), -1);
+        }
+    }
+
+    private static void fullTable() {
+        Twin.changesNothing("variable(0), full", Scene::makeWithFullNodes, x -> x.variable(0), -1);
+        Twin.changesNothing("variable(15), full", Scene::makeWithFullNodes, x -> x.variable(15), -1);
+    }
+
+    private static void noVariableInAFullTable() {
+        for (int k : Outside.SIXTEEN) {
+            Twin.changesNothing("variable(" + k + "), full", Scene::makeWithFullNodes, x -> x.variable(k), -1);
+        }
+    }
+
+    private static void theLastPlace() {
+        for (int cap : new int[] {8, 9, 31, 32}) {
+            ObjectCalculus x = new ObjectCalculus(cap, 8);
+            for (int n = 0; n < cap - 1; n++) {
+                x.object(1);
+            }
+            Due.is("the last place of " + cap, x.variable(0), cap - 1);
+            Due.is("a node behind it", x.variable(0), -1);
+        }
+    }
+
+    /** An int is a node id exactly when it lies in 0..count-1. */
+    private static void notYetANode() {
+        ObjectCalculus x = new ObjectCalculus(8, 8);
+        for (int n = 0; n < 8; n++) {
+            Due.is("check before there is a node " + n, x.check(n), ObjectCalculus.CK_BAD_ROOT);
+            Due.is("run before there is a node " + n, x.run(n, 1), ObjectCalculus.RUN_BAD_ROOT);
+            Due.is("variable(0)", x.variable(0), n);
+            Due.is("check of the node " + n, x.check(n), ObjectCalculus.CK_UNBOUND);
+            Due.is("run of the node " + n, x.run(n, 1), ObjectCalculus.RUN_OPEN);
+        }
+    }
+
+    private static void newVariable() {
+        ObjectCalculus x = Scene.make();
+        for (int k = 0; k <= 15; k++) {
+            int v = x.variable(k);
+            Due.is("variable(" + k + ") has no parent", x.nodeParent(v), -1);
+        }
     }
 
     private static void indicesCountFromTheInnermost() {
@@ -41,16 +89,8 @@ public final class VariableTest {
     }
 
     private static void leavesTheRestAlone() {
-        ObjectCalculus x = new ObjectCalculus(8, 8);
-        int v = x.variable(3);
-        x.check(v);
-        int o = x.object(1);
-        x.run(o, 1);
-        x.variable(0);
-        x.variable(16);
-        Due.is("errorNode() after variable", x.errorNode(), v);
-        Due.is("resultType() after variable", x.resultType(), 1);
-        Due.is("objectsCreated() after variable", x.objectsCreated(), 1);
-        Due.is("fuelUsed() after variable", x.fuelUsed(), 0);
+        List<Twin.Part> parts = List.of(Twin::types, Twin::parents, Twin::errorNode, Twin::result, Twin::sceneTerms);
+        Twin.keeps("variable(0)", Scene::make, x -> x.variable(0), Scene.NODES, parts);
+        Twin.keeps("variable(15)", Scene::make, x -> x.variable(15), Scene.NODES, parts);
     }
 }
