@@ -116,7 +116,8 @@ public final class ExtendTypeTest {
 
     private static void refusalsInAFullTable() {
         int types = Scene.TYPES + 3;
-        Twin.changesNothing("every refused extendType in a full table", Scene::makeWithFullTypes, wrongAnswers(types), 0);
+        String name = "every refused extendType in a full table";
+        Twin.changesNothing(name, Scene::makeWithFullTypes, wrongAnswers(types), 0);
         refused(Scene::makeWithFullTypes, Scene.ONE, 0, 1);
         refused(Scene::makeWithFullTypes, 1, 0, types);
     }
@@ -150,13 +151,13 @@ public final class ExtendTypeTest {
     private static void knownType() {
         Twin.changesNothing("[0:EMPTY] again", Scene::make, x -> x.extendType(1, 0, 1), Scene.ONE);
         Twin.changesNothing("[15:TOP] again", Scene::make, x -> x.extendType(1, 15, 0), Scene.LAST);
-        Twin.changesNothing("[0:EMPTY, 15:ONE] again", Scene::make, x -> x.extendType(Scene.ONE, 15, Scene.ONE), Scene.TWO);
+        Twin.changesNothing("TWO again", Scene::make, x -> x.extendType(Scene.ONE, 15, Scene.ONE), Scene.TWO);
     }
 
     private static void knownTypeInAFullTable() {
         Supplier<ObjectCalculus> full = Scene::makeWithFullTypes;
         Twin.changesNothing("[0:EMPTY], full", full, x -> x.extendType(1, 0, 1), Scene.ONE);
-        Twin.changesNothing("[0:EMPTY, 15:ONE], full", full, x -> x.extendType(Scene.ONE, 15, Scene.ONE), Scene.TWO);
+        Twin.changesNothing("TWO, full", full, x -> x.extendType(Scene.ONE, 15, Scene.ONE), Scene.TWO);
         Twin.changesNothing("the last type, full", full, x -> x.extendType(1, 14, 2), Scene.TYPES + 2);
     }
 

@@ -27,7 +27,8 @@ public final class FaceTest {
         Constructor<?>[] made = c.getDeclaredConstructors();
         Due.is("constructors", made.length, 1);
         Due.is("the constructor is public", made[0].getModifiers(), Modifier.PUBLIC);
-        Due.is("it takes two ints", Arrays.equals(made[0].getParameterTypes(), new Class<?>[] {int.class, int.class}), true);
+        Class<?>[] twoInts = {int.class, int.class};
+        Due.is("it takes two ints", Arrays.equals(made[0].getParameterTypes(), twoInts), true);
         Due.end();
     }
 

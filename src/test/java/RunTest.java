@@ -38,6 +38,8 @@ public final class RunTest {
         updateAsObject32();
         updateAsObject33();
         updatesUntilObject33();
+        nothingIsLeftOfAnEarlierRun();
+        laterObjectsLeaveEarlierOnesAlone();
         closuresKeepTheirEnvironment();
         updateCopies();
         theAnnotationsPlayNoPart();
@@ -102,7 +104,8 @@ public final class RunTest {
     /** Nodes and types never change during a run, and the last check's error node stays. */
     private static void keepsTheRest() {
         List<Twin.Part> parts = List.of(Twin::types, Twin::parents, Twin::errorNode, Twin::terms, Twin::room);
-        int[][] calls = {{Scene.SEL, 0, 3}, {Scene.SEL, 1, 0}, {Scene.UPD, 0, 0}, {Scene.OBJ, 9, 0}, {Scene.OPEN_VAR, 9, 7}};
+        int[][] calls = {
+            {Scene.SEL, 0, 3}, {Scene.SEL, 1, 0}, {Scene.UPD, 0, 0}, {Scene.OBJ, 9, 0}, {Scene.OPEN_VAR, 9, 7}};
         for (int[] call : calls) {
             String name = "run(" + call[0] + ", " + call[1] + ")";
             Twin.keeps(name, Scene::make, x -> x.run(call[0], call[1]), call[2], parts);
@@ -487,6 +490,62 @@ public final class RunTest {
         due("with just the fuel", x, s, 32, ObjectCalculus.RUN_OUT_OF_SPACE, 32, 32);
         due("with one less", x, s, 31, ObjectCalculus.RUN_OUT_OF_FUEL, 31, 32);
         due("with two less", x, s, 30, ObjectCalculus.RUN_OUT_OF_FUEL, 30, 31);
+    }
+
+    /** o.9.9... where each literal's method 9 answers the next; the roots are the literal, o.9, o.9.9, and so on. */
+    private static int[] nested(ObjectCalculus x, int levels, boolean more) {
+        int inner = x.object(1);
+        for (int i = 1; i < levels; i++) {
+            int v = more ? x.variable(0) : -1;
+            int w = more ? x.variable(0) : -1;
+            inner = literalWith(x, 9, inner);
+            if (more) {
+                x.addMethod(inner, 0, v);
+                x.addMethod(inner, 15, w);
+            }
+        }
+        int[] roots = new int[levels];
+        roots[0] = inner;
+        for (int i = 1; i < levels; i++) {
+            roots[i] = x.select(roots[i - 1], 9);
+        }
+        return roots;
+    }
+
+    private static void nothingIsLeftOfAnEarlierRun() {
+        ObjectCalculus x = new ObjectCalculus(32, 8);
+        int[] rich = nested(x, 5, true);
+        int[] poor = nested(x, 4, false);
+        for (int i = 0; i < 4; i++) {
+            due("a run of objects with three methods", x, rich[3], 9, ObjectCalculus.RUN_VALUE, 3, 4);
+            for (int l = 0; l < 16; l++) {
+                Due.is("resultBody(" + l + ") is there", x.resultBody(l) >= 0, l == 0 || l == 9 || l == 15);
+            }
+            due("a run of objects with one method", x, poor[i], 9, ObjectCalculus.RUN_VALUE, i, i + 1);
+            for (int l = 0; l < 16; l++) {
+                Due.is("resultBody(" + l + ") of object " + i, x.resultBody(l) >= 0, l == 9 && i < 3);
+            }
+        }
+    }
+
+    /** o.3 with 3 = s(x) [3 = s(y) [3 = s(z) x].3].3 answers its first object, after it has made two more. */
+    private static void laterObjectsLeaveEarlierOnesAlone() {
+        ObjectCalculus x = new ObjectCalculus(32, 8);
+        int first = x.variable(0);
+        int last = x.variable(0);
+        int second = x.select(literalWith(x, 3, x.variable(2)), 3);
+        int body = x.select(literalWith(x, 3, second), 3);
+        int o = x.object(0);
+        x.addMethod(o, 0, first);
+        x.addMethod(o, 3, body);
+        x.addMethod(o, 15, last);
+        int s = x.select(o, 3);
+        due("a run that answers its first object", x, s, 9, ObjectCalculus.RUN_VALUE, 3, 3);
+        Due.is("its origin", x.resultType(), 0);
+        for (int l = 0; l < 16; l++) {
+            int want = l == 0 ? first : l == 3 ? body : l == 15 ? last : -1;
+            Due.is("resultBody(" + l + ") of the first object", x.resultBody(l), want);
+        }
     }
 
     private static void closuresKeepTheirEnvironment() {

@@ -17,6 +17,7 @@ public final class SubtypeTest {
         width();
         noDepth();
         eightLabels();
+        neighboursDoNotCount();
         noType();
         changesNothing();
         Due.end();
@@ -120,6 +121,19 @@ public final class SubtypeTest {
         int other = x.extendType(prefix[7], 15, 0);
         due(x, prefix[8], other, false);
         due(x, other, prefix[8], false);
+    }
+
+    /** The types right before and behind the two differ in the labels 15 and 0, which are none of theirs. */
+    private static void neighboursDoNotCount() {
+        ObjectCalculus x = new ObjectCalculus(8, 32);
+        x.extendType(1, 15, 0);
+        int narrow = x.extendType(1, 7, 1);
+        x.extendType(1, 0, 0);
+        x.extendType(1, 15, 1);
+        int wide = x.extendType(narrow, 8, 1);
+        x.extendType(1, 0, 1);
+        due(x, wide, narrow, true);
+        due(x, narrow, wide, false);
     }
 
     private static void noType() {
