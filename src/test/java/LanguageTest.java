@@ -3,6 +3,7 @@ import com.sun.source.tree.ClassTree;
 import com.sun.source.tree.CompilationUnitTree;
 import com.sun.source.tree.ExpressionTree;
 import com.sun.source.tree.ForLoopTree;
+import com.sun.source.tree.MemberSelectTree;
 import com.sun.source.tree.MethodInvocationTree;
 import com.sun.source.tree.MethodTree;
 import com.sun.source.tree.NewArrayTree;
@@ -167,6 +168,14 @@ public final class LanguageTest extends TreePathScanner<Void, Void> {
             fault(tree, "a loop without a counter against a bound");
         }
         return super.visitForLoop(tree, none);
+    }
+
+    @Override
+    public Void visitMemberSelect(MemberSelectTree tree, Void none) {
+        if (!tree.getExpression().toString().equals("this")) {
+            fault(tree, "a name of another class, or an array's length");
+        }
+        return super.visitMemberSelect(tree, none);
     }
 
     @Override

@@ -1,4 +1,6 @@
 import java.util.List;
+import java.util.Map;
+import java.util.TreeMap;
 
 /** Promise 5. */
 public final class VariableTest {
@@ -9,6 +11,8 @@ public final class VariableTest {
         noVariableInAFullTable();
         theLastPlace();
         notYetANode();
+        idsInCreationOrder();
+        nodesStay();
         newVariable();
         indicesCountFromTheInnermost();
         leavesTheRestAlone();
@@ -60,6 +64,42 @@ public final class VariableTest {
             Due.is("check of the node " + n, x.check(n), ObjectCalculus.CK_UNBOUND);
             Due.is("run of the node " + n, x.run(n, 1), ObjectCalculus.RUN_OPEN);
         }
+    }
+
+    private static void idsInCreationOrder() {
+        ObjectCalculus x = new ObjectCalculus(32, 8);
+        for (int n = 0; n < 32; n += 4) {
+            Due.is("a variable", x.variable(0), n);
+            Due.is("an object", x.object(1), n + 1);
+            Due.is("a select", x.select(n, 0), n + 2);
+            Due.is("an update", x.update(n + 1, 0, 1, n + 2), n + 3);
+        }
+    }
+
+    /** Nodes are never removed or rewritten, however many others there come to be. */
+    private static void nodesStay() {
+        List<Twin.Part> parts = List.of(Twin::sceneTerms, VariableTest::sceneParents);
+        Twin.keeps("nodes until the table is full", Scene::make, VariableTest::fillBesideTheScene, -1, parts);
+    }
+
+    /** Nodes of each kind that take no child from the scene; answers what one more node gets. */
+    private static int fillBesideTheScene(ObjectCalculus x) {
+        for (int i = 0; i < 5; i++) {
+            int a = i % 2 == 0 ? x.variable(i) : x.object(i % Scene.TYPES);
+            int b = x.object(ObjectCalculus.TOP);
+            x.addMethod(b, i, a);
+            int c = x.variable(15);
+            x.update(b, i, i % Scene.TYPES, c);
+        }
+        return x.variable(0);
+    }
+
+    private static Map<String, Integer> sceneParents(ObjectCalculus x) {
+        Map<String, Integer> answers = new TreeMap<>();
+        for (int n = 0; n < Scene.NODES; n++) {
+            answers.put("nodeParent(" + n + ")", x.nodeParent(n));
+        }
+        return answers;
     }
 
     private static void newVariable() {
